@@ -42,7 +42,9 @@ public final class HourByVote {
     private final Host host;
     // SUM by HOUR and set of who is awake; neither THE CLOCK nor LIMIT bears on it
     private final int[] sums;
+    // VOTE times POWER, at the HOUR that is shown
     private final int[] pulls;
+    // how many PLANS end at each HOUR
     private final int[] ends;
     private final int[] plan;
     private final int[] rows;
@@ -273,13 +275,13 @@ public final class HourByVote {
     private int hourAfter(int hour, int noons) {
         int shown = hour;
         for (int n = 0; n < noons; n++) {
-            shown = hourBehind(shown, now.awake, now.limit);
+            shown = hourBehind(shown, now.awake);
         }
         return shown;
     }
 
-    private int hourBehind(int hour, int awake, int limit) {
-        return moved(hour, turnOf(sumAt(hour, awake), limit));
+    private int hourBehind(int hour, int awake) {
+        return moved(hour, turnOf(sumAt(hour, awake), now.limit));
     }
 
     private int turnNow() {
@@ -440,14 +442,14 @@ public final class HourByVote {
     // ---- plans
 
     public int fewest(int hour) {
-        return isHour(hour) ? firstPlan(hour) : BAD;
+        return isHour(hour) ? firstPlan(hour, now.limit, MOST_PLAN) : BAD;
     }
 
     public int ith(int hour, int i) {
         if (!isHour(hour) || !isIn(i, 0, MOST_PLAN - 1)) {
             return BAD;
         }
-        return i < firstPlan(hour) ? plan[i] : NONE;
+        return i < firstPlan(hour, now.limit, MOST_PLAN) ? plan[i] : NONE;
     }
 
     public int ways(int hour, int n) {
@@ -477,24 +479,24 @@ public final class HourByVote {
             return BAD;
         }
         for (int limit = MOST_LIMIT; limit >= 0; limit--) {
-            if (comesTo(hour, now.hour, now.awake, limit, n)) {
+            if (firstPlan(hour, limit, n) >= 0) {
                 return limit;
             }
         }
         return NONE;
     }
 
-    /** Writes the FIRST of the shortest PLANS into plan: how many NOONS it has, or NONE. */
-    private int firstPlan(int hour) {
-        for (int n = 0; n <= MOST_PLAN; n++) {
-            if (plansTo(hour, now.hour, now.awake, 0, n)) {
+    /** Writes the FIRST of the shortest PLANS into plan: how many NOONS it has, or NONE if these are more than most. */
+    private int firstPlan(int goal, int limit, int most) {
+        for (int n = 0; n <= most; n++) {
+            if (plansTo(goal, now.hour, now.awake, limit, 0, n)) {
                 return n;
             }
         }
         return NONE;
     }
 
-    private boolean plansTo(int goal, int hour, int awake, int at, int n) {
+    private boolean plansTo(int goal, int hour, int awake, int limit, int at, int n) {
         if (apart(hour, goal) > n - at) {
             return false;
         }
@@ -502,26 +504,16 @@ public final class HourByVote {
             return true;
         }
         for (int act = 0; act <= now.voters; act++) {
-            int then = acted(awake, act);
             plan[at] = act;
-            if (plansTo(goal, hourBehind(hour, then, now.limit), then, at + 1, n)) {
+            if (goesOnTo(goal, hour, acted(awake, act), limit, at, n)) {
                 return true;
             }
         }
         return false;
     }
 
-    private boolean comesTo(int goal, int hour, int awake, int limit, int left) {
-        if (hour == goal || apart(hour, goal) > left) {
-            return hour == goal;
-        }
-        for (int act = 0; act <= now.voters; act++) {
-            int then = acted(awake, act);
-            if (comesTo(goal, hourBehind(hour, then, limit), then, limit, left - 1)) {
-                return true;
-            }
-        }
-        return false;
+    private boolean goesOnTo(int goal, int hour, int awake, int limit, int at, int n) {
+        return plansTo(goal, moved(hour, turnOf(sumAt(hour, awake), limit)), awake, limit, at + 1, n);
     }
 
     private void findEnds(int n) {
@@ -535,9 +527,12 @@ public final class HourByVote {
             return;
         }
         for (int act = 0; act <= now.voters; act++) {
-            int then = acted(awake, act);
-            countEnds(hourBehind(hour, then, now.limit), then, left - 1);
+            countEndsBehind(hour, acted(awake, act), left);
         }
+    }
+
+    private void countEndsBehind(int hour, int awake, int left) {
+        countEnds(moved(hour, turnOf(sumAt(hour, awake), now.limit)), awake, left - 1);
     }
 
     private boolean isAct(int act) {
@@ -701,7 +696,7 @@ public final class HourByVote {
         if (!isHour(hour)) {
             return BAD;
         }
-        int n = firstPlan(hour);
+        int n = firstPlan(hour, now.limit, MOST_PLAN);
         if (n < 0) {
             return NONE;
         }
@@ -712,7 +707,7 @@ public final class HourByVote {
             int at = k * ROW_WIDTH;
             rows[at] = plan[k];
             rows[at + 1] = sumAt(shown, awake);
-            shown = hourBehind(shown, awake, now.limit);
+            shown = hourBehind(shown, awake);
             rows[at + 2] = shown;
         }
         rowCount = n;
@@ -838,7 +833,7 @@ public final class HourByVote {
             }
             awake = acted(awake, act);
             count += sumAt(shown, awake) != 0 ? 1 : 0;
-            shown = hourBehind(shown, awake, now.limit);
+            shown = hourBehind(shown, awake);
         }
         return 100 * count + shown;
     }
@@ -1086,7 +1081,8 @@ public final class HourByVote {
         private int words;
         private final int[] word = new int[MOST_BYTES + 1];
         private final int[] place = new int[MOST_BYTES + 1];
-        private final int[] number = new int[MOST_BYTES + 1];
+        // where a FACT or a NUMBER stands among the draft's values
+        private final int[] value = new int[MOST_BYTES + 1];
         // the word that is read next; END is never gone past
         private int at;
 
@@ -1100,10 +1096,10 @@ public final class HourByVote {
 
         /** Uses THE TAPE up for RULES in draft: -1, or the FAULT. */
         int read() {
+            draft.clear();
             cutWords();
             size = 0;
             at = 0;
-            draft.clear();
             boolean reads = true;
             for (int r = 0; r < MOST_RULES && reads && word[at] != END; r++) {
                 reads = readRule();
@@ -1120,26 +1116,39 @@ public final class HourByVote {
                     while (to < size && isLetter(tape[to])) {
                         to++;
                     }
-                    addWord(nameAt(from, to), from, 0);
+                    int name = nameAt(from, to);
+                    addWord(name, from, isIn(name, WORD_FACT, WORD_FACT + FACTS - 1) ? name - WORD_FACT : NONE);
                 } else if (isDigit(tape[from])) {
                     while (to < size && isDigit(tape[to])) {
                         to++;
                     }
-                    addWord(to - from > MOST_DIGITS ? JUNK : DIGITS, from, numberAt(from, to));
+                    addNumber(from, to);
                 } else if (tape[from] != ' ') {
-                    addWord(signOf(tape[from]), from, 0);
+                    addWord(signOf(tape[from]), from, NONE);
                 }
             }
-            addWord(END, size, 0);
+            addWord(END, size, NONE);
         }
 
-        private void addWord(int what, int from, int told) {
+        private void addWord(int what, int from, int valueAt) {
             if (words <= MOST_BYTES) {
                 word[words] = what;
                 place[words] = from;
-                number[words] = told;
+                value[words] = valueAt;
                 words++;
             }
+        }
+
+        private void addNumber(int from, int to) {
+            if (to - from > MOST_DIGITS) {
+                addWord(JUNK, from, NONE);
+                return;
+            }
+            int number = 0;
+            for (int i = from; i < to; i++) {
+                number = number * 10 + tape[i] - '0';
+            }
+            addWord(DIGITS, from, draft.addValue(number));
         }
 
         private static boolean isLetter(int c) {
@@ -1148,14 +1157,6 @@ public final class HourByVote {
 
         private static boolean isDigit(int c) {
             return c >= '0' && c <= '9';
-        }
-
-        private int numberAt(int from, int to) {
-            int told = 0;
-            for (int i = from; i < to; i++) {
-                told = told * 10 + tape[i] - '0';
-            }
-            return told;
         }
 
         private static int signOf(int c) {
@@ -1222,9 +1223,13 @@ public final class HourByVote {
                 return false;
             }
             at++;
-            int by = number[at];
-            if (deed != NIL && (by > MOST_BY || !goPast(DIGITS))) {
-                return false;
+            int by = 0;
+            if (deed != NIL) {
+                by = word[at] == DIGITS ? draft.values[value[at]] : NONE;
+                if (!isIn(by, 0, MOST_BY)) {
+                    return false;
+                }
+                at++;
             }
             draft.addRule(kind, deed, by);
             return goPast(SEMICOLON);
@@ -1263,25 +1268,23 @@ public final class HourByVote {
         }
 
         private boolean readComparison() {
-            int left = readValue();
-            int sign = word[at];
-            if (left < 0 || !isIn(sign, BELOW, ABOVE)) {
+            int left = value[at];
+            if (left < 0) {
                 return false;
             }
             at++;
-            int right = readValue();
-            draft.addStep(sign, left, Math.max(0, right));
-            return right >= 0;
-        }
-
-        /** Where the value stands among the draft's; below 0: there is none here. */
-        private int readValue() {
-            int what = word[at];
-            if (isIn(what, WORD_FACT, WORD_FACT + FACTS - 1)) {
-                at++;
-                return what - WORD_FACT;
+            int sign = word[at];
+            if (!isIn(sign, BELOW, ABOVE)) {
+                return false;
             }
-            return goPast(DIGITS) ? draft.addValue(number[at - 1]) : NONE;
+            at++;
+            int right = value[at];
+            if (right < 0) {
+                return false;
+            }
+            at++;
+            draft.addStep(sign, left, right);
+            return true;
         }
     }
 

@@ -141,6 +141,17 @@ public final class GameTest {
         Check.due("31: the last one", x.liar(), 3);
         x.report(40, 3);
         Check.due("31: not the last one", x.liar(), 3);
+        int[][] alone = {{23, 22, 0}, {22, 21, 23}, {1, 2, 0}, {0, 1, 23}};
+        for (int[] law : alone) {
+            x.forget();
+            x.report(1, law[0]);
+            x.report(2, law[1]);
+            Check.due("31: one LAW fits, from " + law[2], x.liar(), NONE);
+            Check.due("30: one LAW fits, from " + law[2], x.span(2), law[2]);
+            x.report(2, (law[1] + 12) % 24);
+            Check.due("31: none fits", x.span(0), 0);
+            Check.due("31: only without the third", x.liar(), 2);
+        }
     }
 
     private static int next(int z) {

@@ -115,6 +115,9 @@ public final class HostTest {
             Check.due("42: goAll" + args, x.goAll(d[0], d[1], d[2]), d[3]);
             Check.due("43: wouldBe" + args, x.wouldBe(d[0], d[1], d[2]), d[3]);
         }
+        x.sheet(3, 0, 1);
+        Check.due("42: the last SHEET, outside", x.goAll(3, 1, 1), OUTSIDE);
+        Check.due("43: the last SHEET", x.wouldBe(3, 0, 1), x.on(1) + (x.sum() != 0 ? 100 : 0));
         Check.due("42: none of them", x.goAll(0, 9, 0), 0);
         Check.due("42: no NOON", x.state(1), 0);
     }
@@ -194,6 +197,11 @@ public final class HostTest {
         Check.due("44: it", x.taken(0, 0), NOTHING);
         Check.due("44: a SHEET that is missing", x.shelf(3, 1, 2), 1);
         Check.due("44: so nothing", x.taken(3, 13), NOTHING);
+        x.sheet(3, 4, 9);
+        Check.due("44: the last SHEET", x.shelf(3, 1, 3), 1);
+        Check.due("44: it", x.taken(3, 14), 9);
+        Check.due("44: a VOTER in its place", x.shelf(3, 0, 1), 1);
+        Check.due("46: on the last SHELF", x.act(3, 0, 4), 48);
         x.shelf(2, 1, 1);
         x.sheet(1, 0, 3);
         Check.due("44: the row, though the SHEET is another", x.taken(2, 13), 7);
@@ -260,6 +268,9 @@ public final class HostTest {
         acts(x, 1, 10, 17 ^ 2, 30, 11, 10);
         acts(x, 2, 22, 3, 12);
         acts(x, 3, 10, (17 ^ 2) ^ 9, 13, 30, 11, 10);
+        acts(x, 1, 11, 16, 30, 11, 10);
+        acts(x, 3, 11, 16 ^ 9, 13, 30, 11, 10);
+        acts(x, 3, 2, 11 ^ 9, 13, 30, 11, 10);
         x.remake(2, 3);
         acts(x, 0, 10, 18, 50, 10);
         acts(x, 1, 10, 16 ^ 2, 30, 11, 50, 10);

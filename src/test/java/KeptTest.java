@@ -85,6 +85,14 @@ public final class KeptTest {
         due(x);
         Check.due("50: at once again", x.again(), 2);
         due(x);
+        x.change(0, 2, 9);
+        Check.due("12: SUM of what was changed", x.sum(), 9);
+        x.limit(0);
+        x.noon();
+        x.noon();
+        Check.due("9: LAG", x.state(4), 3);
+        x.again();
+        due(x);
         Check.due("2: the next one", x.voter(4, 22, 2, 1), 2);
         Check.due("12: SUM", x.sum(), 3);
     }

@@ -96,6 +96,10 @@ public final class LullTest {
         // at 0 one wants 12: ahead it comes as near as back
         x.change(0, 1, 12);
         Check.due("19: 12 away", x.liars(), 0);
+        x.voter(1, 20, 1, 0);
+        Check.due("19: 12 away, and it would stand: back is nearer", x.liars(), 1);
+        x.change(0, 1, 0);
+        Check.due("19: who is content gains by a VOTE ahead", x.liars(), 1);
         HourByVote y = new HourByVote();
         // one that is content VOTES 0, but the other one draws ahead by 1
         y.voter(1, 0, 2, 0);

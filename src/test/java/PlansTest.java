@@ -156,6 +156,11 @@ public final class PlansTest {
         Check.due("25: without 1 twice", x.limitFor(2, 2), 2);
         Check.due("25: or fewer", x.limitFor(2, 3), 2);
         Check.due("25: three back", x.limitFor(21, 3), 1);
+        x.wakes(1, false);
+        x.change(0, 2, 1);
+        Check.due("25: 1 is above 0", x.limitFor(1, 1), 0);
+        x.wakes(1, true);
+        x.change(0, 2, 3);
         x.limit(50);
         Check.due("25: LIMIT itself counts nothing", x.limitFor(21, 3), 1);
         Check.due("9: LIMIT stays", x.state(2), 50);

@@ -154,6 +154,8 @@ public final class RulesTest {
         fault("voter  ", 7);
         fault("vote more 1;", 0);
         fault("voters more 1;", 0);
+        fault("voterz more 1;", 0);
+        fault("avoter more 1;", 0);
         fault("  Voter more 1;", 2);
         fault("12 more 1;", 0);
         fault("if", 0);
@@ -217,6 +219,21 @@ public final class RulesTest {
         fault("voter more -1;", 11);
         fault("voter if 1 ! 2 nil;", 11);
         fault("voter more 5 if 1 < 2;", 13);
+        // each sign for each other one
+        for (char c : "<=>();".toCharArray()) {
+            if (c != ';') {
+                fault("voter nil" + c, 9);
+            }
+            if (c != ')') {
+                fault("voter if (1<2" + c + " nil;", 13);
+            }
+            if (c != '(') {
+                fault("voter if " + c + "1<2 nil;", 9);
+            }
+            if (c == '(' || c == ')' || c == ';') {
+                fault("voter if 1" + c + "2 nil;", 10);
+            }
+        }
     }
 
     private static void staysWhenRefused() {
@@ -231,6 +248,14 @@ public final class RulesTest {
         Check.due("11: nothing told", x.rules(), 0);
         Check.due("11: no RULES", x.many(1), 0);
         Check.due("11: SUM without", x.sum(), 3);
+        for (int i = 0; i < 60; i++) {
+            String never = "lover if " + i + " > 60 and not 1 < 2 or 3 > 4 more 50;";
+            Check.due("11: time and again", Check.rules(x, never + "lover if hour < 1 and " + i + " = " + i + " more 7;"), 2);
+            Check.due("11: SUM", x.sum(), 10);
+            Check.due("11: a FAULT ahead of it", Check.rules(x, "lover if 1 = 2 nil; 99"), -120);
+            Check.due("11: without condition", Check.rules(x, "lover more 8;"), 1);
+            Check.due("11: SUM", x.sum(), 11);
+        }
     }
 
     private static void holdsEight() {
@@ -258,6 +283,11 @@ public final class RulesTest {
         b.append("more 33;");
         Check.due("11: 200 bytes", b.length(), 200);
         Check.due("11: a long condition", weight(b.toString(), 1, 3, 0), 36);
+        for (String end : new String[] {"voter", "1234", ";"}) {
+            fault(" ".repeat(200 - end.length()) + end, end.equals("voter") ? 200 : 200 - end.length());
+        }
+        fault(";".repeat(200), 0);
+        fault("voter if " + "(".repeat(191), 12);
         StringBuilder nots = new StringBuilder("lover if ");
         for (int i = 0; i < 45; i++) {
             nots.append("not ");
