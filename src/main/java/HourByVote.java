@@ -878,7 +878,10 @@ public final class HourByVote {
         Thing thing = things[now.kind[p]];
         thing.number = p;
         thing.want = now.want[p];
-        int answer = act == 0 ? thing.wishes(x) : act == 1 ? thing.sways(x) : act == 2 ? thing.shares(x) : thing.tells(x);
+        int answer = act == 0 ? thing.wishes(x)
+            : act == 1 ? thing.sways(x)
+            : act == 2 ? thing.shares(x)
+            : thing.tells(x);
         return bodies.isParted ? PARTED_BY_0 : answer;
     }
 
