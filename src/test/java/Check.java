@@ -40,4 +40,17 @@ final class Check {
         feed(x, text);
         return x.rules();
     }
+
+    /** One lover that wants 12, is ASLEEP, and 9999 NOONS; SHEET 0 has 20 bytes 0; 503 calls were used of its 512. */
+    static HourByVote late() {
+        HourByVote x = new HourByVote();
+        x.voter(1, 12, 1, 0);
+        x.wakes(0, false);
+        x.sheet(0, 0, 20);
+        for (int i = 0; i < 499; i++) {
+            x.goAll(0, 0, 20);
+        }
+        x.goAll(0, 0, 19);
+        return x;
+    }
 }

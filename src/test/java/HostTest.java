@@ -33,14 +33,13 @@ public final class HostTest {
         Check.due("41: still missing", x.item(0, 0, 0), NOTHING);
         for (int s = 0; s < 4; s++) {
             for (int sort = 0; sort <= 4; sort++) {
-                Check.due("39: 40 of a sort", x.sheet(s, sort, 40), 1);
-                for (int i = 0; i < 40; i++) {
-                    Check.due("39: all 0", x.item(s, sort, i), 0);
-                    x.write(s, i, 1 + i);
-                }
-                Check.due("39: 40 and no more", x.item(s, sort, 40), OUTSIDE);
+                laysForty(s, sort);
             }
         }
+        x.sheet(2, 4, 40);
+        x.write(2, 0, 1);
+        x.sheet(1, 4, 40);
+        x.write(1, 0, 1);
         Check.due("39: anew", x.sheet(2, 4, 40), 1);
         Check.due("39: all 0 again", x.item(2, 4, 0), 0);
         Check.due("39: the others stay", x.item(1, 4, 0), 1);
@@ -49,6 +48,16 @@ public final class HostTest {
         Check.due("39: missing, n counts nothing", x.sheet(1, -1, 99), 1);
         Check.due("41: missing", x.item(1, 2, 0), NOTHING);
         Check.due("39: missing, n counts nothing", x.sheet(1, -1, -99), 1);
+    }
+
+    private static void laysForty(int s, int sort) {
+        HourByVote x = new HourByVote();
+        Check.due("39: 40 of a sort", x.sheet(s, sort, 40), 1);
+        for (int i = 0; i < 40; i++) {
+            Check.due("39: all 0", x.item(s, sort, i), 0);
+            x.write(s, i, 1 + i);
+        }
+        Check.due("39: 40 and no more", x.item(s, sort, 40), OUTSIDE);
     }
 
     private static void writesNarrowed() {

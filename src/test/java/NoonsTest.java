@@ -139,9 +139,7 @@ public final class NoonsTest {
         for (int i = 0; i < 499; i++) {
             x.goAll(0, 0, 20);
         }
-        for (int i = 0; i < 2; i++) {
-            x.goAll(0, 0, 9);
-        }
+        x.goAll(0, 0, 18);
         Check.due("13: 9998 NOONS", x.many(2), 9998);
         Check.due("13: the last NOON", x.noon(), 0);
         Check.due("13: NOONS", x.many(2), 9999);
@@ -151,16 +149,12 @@ public final class NoonsTest {
         Check.due("33: z stays", x.seed(1), 1);
         Check.due("42: left out", x.goAll(0, 0, 2), 0);
         Check.due("42: NOONS", x.many(2), 9999);
-        x.write(0, 0, 1);
-        Check.due("42: left out, its ACT too", x.goAll(0, 0, 1), 0);
-        Check.due("42: awake", x.state(3), 1);
-        Check.due("14: past it", x.on(2), 2);
-        Check.due("21: past it", x.fewest(3), 3);
-        Check.due("35: past it", x.prove(3), 3);
-        Check.due("38: past it", x.judge(3), 0);
-        Check.due("34: past it", x.often(60, 1) + x.often(60, 0), 60);
-        x.write(0, 0, 0);
-        Check.due("43: past it", x.wouldBe(0, 0, 3), 303);
-        Check.due("9: HOUR", x.state(0), 0);
+        HourByVote y = Check.late();
+        y.write(0, 0, 1);
+        Check.due("42: left out, its ACT too", y.goAll(0, 0, 1), 0);
+        Check.due("42: still ASLEEP", y.state(3), 0);
+        y.wakes(0, true);
+        Check.due("35: past it", y.prove(3), 3);
+        Check.due("38: past it", y.judge(3), 0);
     }
 }

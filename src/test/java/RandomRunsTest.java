@@ -7,7 +7,8 @@ import java.util.Random;
 
 /** All promises: runs of calls drawn from a fixed seed, answered by the class and by Model alike. */
 public final class RandomRunsTest {
-    private static final int RUNS = 400, CALLS = 120;
+    // what an object answers behind its 512th call is free
+    private static final int RUNS = 400, MOST_CALLS = 512;
     private static final String[] WORDS = {
         "voter", "lover", "debtor", "shift", "baker", "sleeper", "if", "and", "or", "not", "more", "less", "nil", "hour",
         "want", "weight", "awake", "number", "<", "=", ">", "(", ")", ";", "0", "7", "99", "100", "0012", "12345", "x", "?", " "
@@ -18,6 +19,7 @@ public final class RandomRunsTest {
     private final HourByVote real = new HourByVote();
     private final Model model = new Model();
     private final StringBuilder story = new StringBuilder();
+    private int asked;
 
     private RandomRunsTest(int run) {
         draw = new Random(run);
@@ -44,18 +46,25 @@ public final class RandomRunsTest {
     }
 
     private boolean agrees() throws ReflectiveOperationException {
-        for (int p = draw.nextInt(8); p > 0; p--) {
+        boolean late = draw.nextInt(20) == 0;
+        for (int p = draw.nextInt(late ? 3 : 8); p > 0; p--) {
             if (!asks("voter", 1 + draw.nextInt(5), draw.nextInt(24), 1 + draw.nextInt(9), draw.nextInt(20))) {
                 return false;
             }
         }
-        asks("clock", draw.nextInt(24));
-        for (int i = 0; i < CALLS; i++) {
-            if (!asksAny()) {
-                return false;
-            }
+        boolean fine = asks("clock", draw.nextInt(24)) && (!late || nearsTheLastNoon());
+        while (fine && asked < MOST_CALLS) {
+            fine = asksAny();
         }
-        return true;
+        return fine;
+    }
+
+    private boolean nearsTheLastNoon() throws ReflectiveOperationException {
+        boolean fine = asks("sheet", 0, 0, 20);
+        for (int i = 0; i < 499 && fine; i++) {
+            fine = asks("goAll", 0, 0, 20);
+        }
+        return fine && asks("goAll", 0, 1, 18 + draw.nextInt(2));
     }
 
     private boolean asksAny() throws ReflectiveOperationException {
@@ -88,7 +97,7 @@ public final class RandomRunsTest {
         boolean hour = List.of("when", "fewest", "ith", "ways", "limitFor", "prove", "judge", "clock").contains(call) && i == 0
             || List.of("report", "often").contains(call) && i == 1;
         if (hour) {
-            return draw.nextBoolean() ? (real.state(0) + draw.nextInt(9) + 20) % 24 : draw.nextInt(26) - 1;
+            return draw.nextBoolean() ? (model.state(0) + draw.nextInt(9) + 20) % 24 : draw.nextInt(26) - 1;
         }
         return call.equals("change") && i == 2 ? draw.nextInt(26) - 1 : call.equals("play") || call.equals("game") || call.equals("ways") || call.equals("hours") ? draw.nextInt(5) : draw.nextInt(9) - 1;
     }
@@ -121,7 +130,7 @@ public final class RandomRunsTest {
     }
 
     private boolean altersRows() throws ReflectiveOperationException {
-        int hour = (real.state(0) + draw.nextInt(9) + 20) % 24;
+        int hour = (model.state(0) + draw.nextInt(9) + 20) % 24;
         return asks("prove", hour) && asks("judge", hour) && asks("alterRow", draw.nextInt(4), draw.nextInt(3), draw.nextInt(24))
             && asks("judge", hour) && asks("row", draw.nextInt(4), draw.nextInt(3));
     }
@@ -179,6 +188,10 @@ public final class RandomRunsTest {
     }
 
     private boolean asks(String name, Object... args) throws ReflectiveOperationException {
+        if (asked == MOST_CALLS) {
+            return true;
+        }
+        asked++;
         Method m = null;
         for (Method c : calls) {
             m = c.getName().equals(name) ? c : m;

@@ -248,8 +248,8 @@ public final class RulesTest {
         Check.due("11: nothing told", x.rules(), 0);
         Check.due("11: no RULES", x.many(1), 0);
         Check.due("11: SUM without", x.sum(), 3);
-        for (int i = 0; i < 60; i++) {
-            String never = "lover if " + i + " > 60 and not 1 < 2 or 3 > 4 more 50;";
+        for (int i = 0; i < 20; i++) {
+            String never = "lover if " + i + " > 20 and not 1 < 2 or 3 > 4 more 50;";
             Check.due("11: time and again", Check.rules(x, never + "lover if hour < 1 and " + i + " = " + i + " more 7;"), 2);
             Check.due("11: SUM", x.sum(), 10);
             Check.due("11: a FAULT ahead of it", Check.rules(x, "lover if 1 = 2 nil; 99"), -120);
