@@ -1,3 +1,5 @@
+import java.util.function.ToIntFunction;
+
 /** "What is asked changes nothing, if not told (it may go on past NOON 9999)." */
 final class AskedEdges {
     private static final String PART = "Section 3";
@@ -14,7 +16,7 @@ final class AskedEdges {
         gamesPastTheLastNoon();
     }
 
-    private static void asks(String call, java.util.function.ToIntFunction<HourByVote> asked) {
+    private static void asks(String call, ToIntFunction<HourByVote> asked) {
         Twins.asks(call, asked, Twins::empty, Twins::told, Twins::full);
     }
 
@@ -37,7 +39,7 @@ final class AskedEdges {
         asks("span(0)", x -> x.span(0));
         asks("liar()", x -> x.liar());
         asks("often(60, 8)", x -> x.often(60, 8));
-        asks("keep(), as what is kept is asked by again() alone: many(0)", x -> x.many(0));
+        asks("many(0)", x -> x.many(0));
     }
 
     private static void plansChangeNothing() {

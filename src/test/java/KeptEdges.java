@@ -8,6 +8,7 @@ final class KeptEdges {
     static void all() {
         keep();
         keepAll();
+        keepEach();
         keepNotThese();
         again();
         againStays();
@@ -52,6 +53,43 @@ final class KeptEdges {
         x.seed(5);
         Edge.due("how many VOTERS", x.again(), 7);
         Twins.alike("again() behind keep()", x, y);
+    }
+
+    private static void keepEach() {
+        Edge.of("Promise 49", "All but THE TAPE, ROWS, SHEETS, SHELVES, THE TRACE is kept: 1.");
+        HourByVote x = new HourByVote();
+        x.voter(2, 9, 3, 8);
+        x.wakes(0, false);
+        x.keep();
+        x.wakes(0, true);
+        x.noon();
+        x.limit(4);
+        x.seed(44);
+        x.change(0, 2, 9);
+        x.clock(0);
+        Edge.due("SUM ahead of again()", x.sum(), 9);
+        x.again();
+        int[] due = {0, 0, 0, 0, 0};
+        for (int what = 0; what <= 4; what++) {
+            Edge.due("state(" + what + ")", x.state(what), due[what]);
+        }
+        Edge.due("z", x.seed(1), 1);
+        x.wakes(0, true);
+        Edge.due("SUM, at the same HOUR with the same one awake", x.sum(), 3);
+        x.report(5, 5);
+        x.report(6, 6);
+        Check.rules(x, "voter if hour < 1 more 4;");
+        x.keep();
+        x.forget();
+        x.report(5, 6);
+        x.report(7, 6);
+        Check.rules(x, "voter if hour < 2 less 1;");
+        x.again();
+        Edge.due("REPORTS", x.many(3), 2);
+        Edge.due("LAWS that FIT them", x.span(0) * 1000 + x.span(1) * 100 + x.span(2), 1200);
+        Edge.due("RULES", x.sum(), 7);
+        x.clock(1);
+        Edge.due("their conditions", x.sum(), 3);
     }
 
     private static void keepNotThese() {

@@ -74,6 +74,9 @@ final class LotEdges {
     private static void leastLiar() {
         Edge.of(PART, "LIAR: if none FITS, the least REPORT but for which some would.");
         Edge.due("either of two", reports(0, 0, 0, 1).liar(), 0);
+        Edge.due("two ahead is no STEP", reports(0, 0, 1, 2).liar(), 0);
+        Edge.due("two back is no STEP", reports(0, 0, 1, 22).liar(), 0);
+        Edge.due("two ahead over midnight is no STEP", reports(0, 23, 1, 1).liar(), 0);
         Edge.due("the second of three", reports(0, 0, 0, 1, 0, 0).liar(), 1);
         Edge.due("the third of three", reports(0, 0, 0, 0, 0, 1).liar(), 2);
         Edge.due("the last of six", reports(0, 0, 1, 1, 2, 2, 3, 3, 4, 4, 5, 6).liar(), 5);
@@ -183,6 +186,8 @@ final class LotEdges {
     private static void span() {
         Edge.of("Promise 30", "LAWS that FIT: what = 0 how many; of that with the least STEP, of these the least START: 1 STEP and 1, 2 START.");
         spans("no REPORTS", new HourByVote(), 72, 0, 0);
+        spans("two ahead is no STEP", reports(0, 0, 1, 2), 0, NONE, NONE);
+        spans("two back is no STEP", reports(0, 23, 1, 21), 0, NONE, NONE);
         spans("STEP 1, START 23 alone", reports(0, 23, 1, 0), 1, 2, 23);
         spans("STEP 0, START 23 alone", reports(0, 23, 1, 23), 1, 1, 23);
         spans("STEP -1, START 23 alone", reports(0, 23, 1, 22), 1, 0, 23);
@@ -214,6 +219,8 @@ final class LotEdges {
         Twins.same("no REPORT", x -> x.liar(), NONE, Twins::empty);
         Edge.due("one REPORT", reports(60, 23).liar(), NONE);
         Edge.due("six that fit", reports(0, 0, 1, 1, 2, 2, 3, 3, 4, 4, 5, 5).liar(), NONE);
+        Edge.due("only STEP -1, START 0 fits", reports(0, 0, 1, 23).liar(), NONE);
+        Edge.due("only STEP 1, START 23 fits", reports(0, 23, 1, 0).liar(), NONE);
         Edge.due("two are wrong", reports(0, 0, 0, 0, 0, 1, 0, 1).liar(), NONE);
         Edge.due("all of six are unlike", reports(0, 0, 0, 1, 0, 2, 0, 3, 0, 4, 0, 5).liar(), NONE);
     }

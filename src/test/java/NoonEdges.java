@@ -332,6 +332,15 @@ final class NoonEdges {
         Edge.due("it is content", x.power(6), 0);
         x = lovers(new int[] {5, 1}, new int[] {20, 1});
         Edge.due("none: from standing; the other one: to standing", x.power(0), 2);
+        x = lovers(new int[] {5, 1}, new int[] {5, 1}, new int[] {5, 1});
+        x.limit(2);
+        for (int p = 0; p < 3; p++) {
+            Edge.due("of both others alone, " + p, x.power(p), 1);
+        }
+        x.limit(1);
+        for (int p = 0; p < 3; p++) {
+            Edge.due("of either other one, " + p, x.power(p), 2);
+        }
     }
 
     private static void powerAsleep() {

@@ -274,6 +274,10 @@ final class PlanEdges {
         Edge.due("the least of 5 and 6", x.play(1), 5);
         x.limit(9);
         Edge.due("all the same: none", x.play(1), 0);
+        // 2 ahead, 2 back: if it is let be, the other one puts 0 to sleep, and it goes back; so 1 must sleep first
+        x = lovers(new int[] {9, 2}, new int[] {20, 1}, new int[] {20, 1});
+        Edge.due("as well as they can: game(2)", x.game(2), 10);
+        Edge.due("as well as they can: play(2)", x.play(2), 2);
     }
 
     private static void playRefused() {

@@ -19,6 +19,7 @@ final class RuleEdges {
         blanks();
         brackets();
         firstFault();
+        wrongSigns();
         longNumber();
         above99();
         fourthBracket();
@@ -28,6 +29,7 @@ final class RuleEdges {
         feed();
         feedRefused();
         rules();
+        rulesTimeAndAgain();
         rulesRefused();
     }
 
@@ -179,7 +181,8 @@ final class RuleEdges {
         Edge.due("@ behind a NAME", power("lover@ nil;"), -105);
         Edge.due("[ behind a NAME", power("lover[ nil;"), -105);
         Edge.due("a NUMBER ends a NAME", power("lover more1;"), 4);
-        Edge.due("another NAME: z", power("z"), -100);
+        Edge.due("a is a letter", power("lovera nil;"), -100);
+        Edge.due("z is a letter", power("loverz nil;"), -100);
         Edge.due("200 letters", power("a".repeat(200)), -100);
     }
 
@@ -242,6 +245,28 @@ final class RuleEdges {
         fault("voter nil; lover more 1; ? 1", 25);
         // the first one of several
         fault("voter ? ! 12345", 6);
+    }
+
+    private static void wrongSigns() {
+        Edge.of(PART, "FAULT: the place (from 0) of the first byte of the first NAME, NUMBER or other byte that can't stand there");
+        // each sign in the places of the others
+        for (char c : "<=>();".toCharArray()) {
+            fault(c + "voter nil;", 0);
+            if (c != ';') {
+                fault("voter nil" + c, 9);
+            }
+            if (c != '(') {
+                fault("voter if " + c + "1=1 nil;", 9);
+            }
+            if (c != ')') {
+                fault("voter if (1=1" + c + "nil;", 13);
+            }
+            if (c == '(' || c == ')' || c == ';') {
+                fault("voter if 1" + c + "1 nil;", 10);
+            }
+            fault("voter if 1=" + c + "1 nil;", 11);
+            fault("voter more " + c + "1;", 11);
+        }
     }
 
     private static void longNumber() {
@@ -354,6 +379,20 @@ final class RuleEdges {
         Edge.due("an empty TAPE", x.rules(), 0);
         Edge.due("many(1)", x.many(1), 0);
         Edge.due("no RULES", x.sum(), 3);
+    }
+
+    private static void rulesTimeAndAgain() {
+        Edge.of("Promise 11", "(in place of all)");
+        HourByVote x = new HourByVote();
+        x.voter(1, 12, 3, 0);
+        for (int i = 0; i < 18; i++) {
+            // 30 NUMBERS each time
+            String text = "lover if1=2" + "or3=4".repeat(12) + "or" + i + "=" + i + "more " + (50 + i) + ";lover nil;";
+            Edge.due("reading " + i, Check.rules(x, text), 2);
+            Edge.due("SUM", x.sum(), 53 + i);
+            Edge.due("a FAULT", Check.rules(x, "lover if 9=9 nil; ?"), -118);
+            Edge.due("SUM stays", x.sum(), 53 + i);
+        }
     }
 
     private static void rulesRefused() {

@@ -318,6 +318,12 @@ final class SheetEdges {
         Edge.due("20, SUM is 0", x.wouldBe(0, 20, 20), 23);
         x.clock(3);
         Edge.due("four back over midnight", x.wouldBe(0, 0, 20), 423);
+        x.write(0, 5, 1);
+        Edge.due("back, then ASLEEP, and it stays so", x.wouldBe(0, 4, 20), 102);
+        x.write(0, 6, 1);
+        Edge.due("back, then ASLEEP, then woken: three more back", x.wouldBe(0, 4, 20), 423);
+        x.write(0, 5, 0);
+        x.write(0, 6, 0);
         x.voter(1, 11, 9, 0);
         x.voter(1, 23, 9, 0);
         x.change(0, 2, 9);
