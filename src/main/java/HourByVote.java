@@ -1303,7 +1303,9 @@ public final class HourByVote {
         void lay(int sheet, int ofSort, int n) {
             sort[sheet] = ofSort;
             items[sheet] = n;
-            Arrays.fill(item, sheet * MOST_ITEMS, (sheet + 1) * MOST_ITEMS, 0);
+            for (int i = 0; i < n; i++) {
+                item[sheet * MOST_ITEMS + i] = 0;
+            }
         }
 
         boolean hasItem(int sheet, int i) {
